@@ -20,6 +20,8 @@ public final class ChannelTest {
         chooseWaitsOnce();
         chooseIsClosed();
         chooseLeavesTheOrderOfOthers();
+        lastChannelFull();
+        sendsThenReceives();
         Due.end();
     }
 
@@ -282,5 +284,36 @@ public final class ChannelTest {
         x.run(1);
         Op.dueWaits(x, "the one in the middle is gone", 0, 0, 2);
         Op.dueRow(x, "it is READY", 1);
+    }
+
+    private static void lastChannelFull() {
+        FibreDesk x = desk(1, 3, 3);
+        Op.program(x, 0, Op.op(Op.SEND, 3, 0));
+        Op.program(x, 1, Op.op(Op.RECEIVE, 3, 0), Op.op(Op.OUT, 0), Op.op(Op.JUMP, 0));
+        start(x, 0, 50, 51, 52, 53, 54);
+        x.run(100);
+        Op.dueHeld(x, "full", 3, 50, 51, 52);
+        Due.due("held(3, 4)", x.held(3, 4), -2);
+        Op.dueWaits(x, "two", 3, 3, 4);
+        start(x, 1, 0);
+        x.run(100);
+        Op.dueOut(x, "all in their order", 50, 51, 52, 53, 54);
+        Op.dueWaits(x, "the receiver", 3, 0);
+    }
+
+    private static void sendsThenReceives() {
+        FibreDesk x = new FibreDesk(1);
+        Op.program(x, 0, Op.op(Op.SEND, 0, 0), Op.op(Op.RECEIVE, 1, 1), Op.op(Op.OUT, 1));
+        Op.program(x, 1, Op.op(Op.RECEIVE, 0, 1), Op.op(Op.YIELD), Op.op(Op.SEND, 1, 1), Op.op(Op.OUT, 0));
+        start(x, 0, 5);
+        x.run(100);
+        start(x, 1, 6);
+        x.run(3);
+        Op.dueWaits(x, "it waits to receive, having waited to send", 1, 0);
+        x.run(100);
+        Due.due("DONE", x.state(0), 5);
+        Due.due("DONE", x.state(1), 5);
+        Due.due("out(-1)", x.out(-1), 2);
+        Due.due("its own number came back", x.of(0, 1), 5);
     }
 }
