@@ -72,16 +72,7 @@ public final class FaceTest {
                 + "|String|System|Math|Integer|Arrays|Object|class\\s+(?!FibreDesk)\\w+|enum|record|interface)\\b|->|::|\"";
         Matcher found = Pattern.compile(barred).matcher(code);
         Due.due("barred words", found.find(), false);
-        int arrays = 0;
-        Matcher made = Pattern.compile("\\bnew\\b").matcher(code);
-        while (made.find()) {
-            arrays++;
-        }
-        int inFields = 0;
-        Matcher fields = Pattern.compile("(?m)^    private final \\w+\\[\\] \\w+ = new \\w+\\[[A-Z_]+\\];$").matcher(code);
-        while (fields.find()) {
-            inFields++;
-        }
-        Due.due("arrays made outside the fields' initialisers", arrays - inFields, 0);
+        Matcher others = Pattern.compile("\\bnew\\b(?! (int|long|short|byte|char|boolean)\\[[^\\]]+\\];)").matcher(code);
+        Due.due("what is made and is no array of numbers", others.find(), false);
     }
 }
